@@ -1836,9 +1836,9 @@ public final class BorrowedWeight {
         static final int MOST_AWAY = 20;
         private static final int MOST_NOTES = 10;
 
-        private final int[] things = new int[MOST_NOTES];
-        private final int[] hours = new int[MOST_NOTES];
-        private final int[] answers = new int[MOST_NOTES];
+        private final int[] notedThings = new int[MOST_NOTES];
+        private final int[] notedHours = new int[MOST_NOTES];
+        private final int[] notedAnswers = new int[MOST_NOTES];
         int size;
         /** By holders of the stone (the last: none) and hours: what floats, as bits. */
         private final int[][] floating = new int[MOST_THINGS + 1][MOST_AWAY + 1];
@@ -1848,9 +1848,9 @@ public final class BorrowedWeight {
             if (size >= MOST_NOTES) {
                 return NONE;
             }
-            things[size] = thing;
-            hours[size] = hour;
-            answers[size] = answer;
+            notedThings[size] = thing;
+            notedHours[size] = hour;
+            notedAnswers[size] = answer;
             size++;
             return size;
         }
@@ -1874,7 +1874,8 @@ public final class BorrowedWeight {
         /** Whether what was looked at last is all as it was seen. */
         boolean agrees() {
             for (int i = 0; i < size; i++) {
-                if ((floating[holder][hours[i]] >> things[i] & 1) != answers[i]) {
+                int floats = floating[holder][notedHours[i]] >> notedThings[i] & 1;
+                if (floats != notedAnswers[i]) {
                     return false;
                 }
             }
