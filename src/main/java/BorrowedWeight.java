@@ -51,6 +51,8 @@ public final class BorrowedWeight {
     private final int[] sums;
     private final int[] best;
     private final int[] tally;
+    private final int[] stringOne;
+    private final int[] stringOther;
     private final boolean[] lost;
 
     public BorrowedWeight() {
@@ -66,6 +68,8 @@ public final class BorrowedWeight {
         sums = new int[SETS];
         best = new int[SETS];
         tally = new int[MOST_STORM_STRINGS + 1];
+        stringOne = new int[MOST_STORM_STRINGS];
+        stringOther = new int[MOST_STORM_STRINGS];
         lost = new boolean[(MOST_LOANS + 1) * (MOST_LOANS + 1)];
     }
 
@@ -1063,19 +1067,17 @@ public final class BorrowedWeight {
      * Strings outside its bundle can't change that, so they are left out: how many are in it.
      */
     private int tallyStorm(int thing) {
-        int bundle = now.bundleOf(thing);
-        int strings = 0;
-        for (int i = 0; i < MOST_THINGS; i++) {
-            if ((bundle >> i & 1) == 1) {
-                strings += Integer.bitCount(now.links[i]);
-            }
-        }
-        strings = Math.min(strings / 2, MOST_STORM_STRINGS);
+        int strings = listStrings(now.bundleOf(thing));
         for (int broken = 0; broken <= strings; broken++) {
             tally[broken] = 0;
         }
         for (int whole = 0; whole < 1 << strings; whole++) {
-            tieWhole(bundle, whole);
+            then.cutAll();
+            for (int string = 0; string < strings; string++) {
+                if ((whole >> string & 1) == 1) {
+                    then.toggle(stringOne[string], stringOther[string]);
+                }
+            }
             if (land.excess(now, then.bundleOf(thing)) >= 0) {
                 tally[strings - Integer.bitCount(whole)]++;
             }
@@ -1083,22 +1085,19 @@ public final class BorrowedWeight {
         return strings;
     }
 
-    private void tieWhole(int bundle, int whole) {
-        then.cutAll();
-        int string = 0;
+    private int listStrings(int bundle) {
+        int strings = 0;
         for (int one = 0; one < MOST_THINGS; one++) {
-            if ((bundle >> one & 1) == 0) {
-                continue;
-            }
             for (int other = one + 1; other < MOST_THINGS; other++) {
-                if (now.isTied(one, other)) {
-                    if ((whole >> string & 1) == 1) {
-                        then.toggle(one, other);
-                    }
-                    string++;
+                boolean isIn = (bundle >> one & 1) == 1 && now.isTied(one, other);
+                if (isIn && strings < MOST_STORM_STRINGS) {
+                    stringOne[strings] = one;
+                    stringOther[strings] = other;
+                    strings++;
                 }
             }
         }
+        return strings;
     }
 
     private static long power(int base, int times) {

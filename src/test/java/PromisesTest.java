@@ -183,6 +183,13 @@ public final class PromisesTest {
         due("second", x.count(7), 6);
         x.hours(2);
         due("round", x.count(7), 3);
+        text(x, "4").winds();
+        due("one alone", x.count(7), 4);
+        text(x, "05").winds();
+        x.hours(1);
+        due("still air", x.count(7), 0);
+        x.undo();
+        text(x, "369").winds();
         due("need by wind", x.thing(0, 5), 4 + 1);
         due("refused", text(x, "5;").winds(), -2);
         due("as it was", x.count(7), 3);
@@ -226,6 +233,10 @@ public final class PromisesTest {
         fault(x, "z<=w", 2);
         fault(x, "(z<w>k)", 4);
         fault(x, "z w", 1);
+        fault(x, "z~w", 1);
+        fault(x, "~z", 0);
+        fault(x, "z<(w<k)<g", 7);
+        fault(x, "(z<(w<k)+1)<(g>h)=1", 17);
         fault(x, "Z", 0);
         String forty = "1+1+1+1+1+1+1+1+1+1+1+1+1+1+1+1+1+1+1+22";
         due("forty", text(x, forty).rule(), 0);
@@ -424,11 +435,15 @@ public final class PromisesTest {
         due("gives", x.gives(0, 2), 27);
         due("left", x.thing(0, 1), 3);
         due("not so many", x.gives(0, 4), -2);
+        due("all", x.gives(0, 3), 30);
+        due("none left", x.gives(0, 1), -2);
+        x.undo();
         due("none", x.gives(1, 1), -2);
         due("n 0", x.gives(0, 0), -1);
         due("n 10", x.gives(0, 10), -1);
         due("none such", x.gives(2, 1), -1);
-        x.digs(72);
+        x.digs(71);
+        due("to 99", x.gives(0, 1), 99);
         due("above 99", x.gives(0, 1), -3);
         due("not so many first", x.gives(0, 9), -2);
         due("gone", oneGone().gives(0, 1), -2);
@@ -575,6 +590,21 @@ public final class PromisesTest {
         due("strings", x.undo(), 0);
         due("no strings", x.count(2), 0);
         due("none", x.undo(), -1);
+
+        x.ties(0, 1);
+        x.ties(0, 1);
+        due("a string that is cut, too", x.count(10), 2);
+        due("tied again", x.undo(), 1);
+        due("a string", x.count(2), 1);
+        text(x, "12").strings();
+        x.undo();
+        due("a string as ahead of it", x.count(2), 1);
+        x.lends(0, 1);
+        x.hours(1);
+        x.undo();
+        due("a stone as ahead of the hour", x.thing(0, 1), 1);
+        x.undo();
+        x.undo();
 
         x.lends(0, 10);
         x.hours(61);
@@ -891,6 +921,10 @@ public final class PromisesTest {
         x.forget();
         x.seen(2, 3, 1);
         Check.row("all but one", x, x.fits(), 11, 3, 1);
+        x.lends(3, 1);
+        x.seen(3, 0, 0);
+        Check.row("the last alone", x, x.fits(), 8, 1, 0);
+        x.undo();
         x.forget();
         x.seen(0, 10, 0);
         Check.row("gone is not floating", x, x.fits(), 15, 4, 1);
@@ -927,6 +961,10 @@ public final class PromisesTest {
         text(y, "(d>7)*9").rule();
         y.lends(0, 1);
         Check.row("at an hour", y, y.looks(), 4, 1);
+        text(y, "(d>38)*9").rule();
+        Check.row("at the last hour", y, y.looks(), 20, 1);
+        y.seen(0, 20, 1);
+        Check.row("seen in the last hour", y, y.fits(), 1, 1, 0);
     }
 
     private static void lifts() {
