@@ -405,6 +405,14 @@ public final class PromisesTest {
         s.lends(2, 1);
         Check.row("a bundle goes whole", s, s.hours(5), 0, 3, 1);
         due("strings are cut", s.count(2), 0);
+        BorrowedWeight c = Check.with("9;9;9", "");
+        c.lends(0, 4);
+        c.hours(5);
+        text(c, "01;02;12").strings();
+        Check.row("two of a bundle go, strings to the first are cut", c, c.hours(5), 1, 2, 0);
+        due("no strings", c.count(2), 0);
+        due("tied to none", c.thing(0, 6), 0);
+        due("down alone", c.floats(), 0);
     }
 
     private static void lends() {
@@ -603,6 +611,12 @@ public final class PromisesTest {
         x.hours(1);
         x.undo();
         due("a stone as ahead of the hour", x.thing(0, 1), 1);
+        text(x, "12").strings();
+        text(x, "02").strings();
+        x.undo();
+        due("a string of two as ahead of it", x.count(2), 2);
+        due("a stone as ahead of the string", x.thing(0, 1), 1);
+        x.undo();
         x.undo();
         x.undo();
 
@@ -1047,6 +1061,9 @@ public final class PromisesTest {
         Check.row("twelve", y, y.storm(0, 1), 0, 9, 10);
         y.ties(1, 7);
         due("thirteen", y.storm(0, 1), -2);
+        BorrowedWeight last = Check.with("2;1;1;1;1;1;1;1", "01;02;03;04;05;06;12;13;14;15;23;67");
+        last.lends(7, 1);
+        Check.row("twelve, by the last one", last, last.storm(0, 1), 0, 81, 100);
         BorrowedWeight n = Check.with("1;1;1", "01;12");
         text(n, "k").rule();
         n.lends(0, 2);
