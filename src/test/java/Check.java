@@ -4,8 +4,18 @@ import java.util.NoSuchElementException;
 final class Check {
     private static int wrong = 0;
     private static int asked = 0;
+    private static String place = "";
 
     private Check() {
+    }
+
+    /** Names the test that is running, for what fails in it. */
+    static void enter(String test) {
+        place = test.isEmpty() ? "" : test + ": ";
+    }
+
+    static int asked() {
+        return asked;
     }
 
     static void due(String what, long got, long want) {
@@ -26,7 +36,7 @@ final class Check {
     static void fail(String message) {
         wrong++;
         if (wrong <= 40) {
-            System.out.println(message);
+            System.out.println(place + message);
         }
     }
 
