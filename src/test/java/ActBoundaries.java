@@ -115,6 +115,17 @@ final class ActBoundaries extends Boundaries {
         due("the others", x.thing(1, 6) * 10 + x.thing(2, 6), 42);
     }
 
+    static void p10_itsStringsToTheFirstAndTheLastAreCut() {
+        BorrowedWeight x = ruled("1;1;1;1;1;1;1;1", "(i=3)*9");
+        x.hours(9);
+        text(x, "03;31;37;36;07").strings();
+        row("it goes", x, x.hours(1), 255 - 8, 1, 0);
+        due("one is left", x.count(2), 1);
+        due("of the first", x.thing(0, 6), 128);
+        due("of the last", x.thing(7, 6), 1);
+        due("of the others", x.thing(1, 6) + x.thing(6, 6), 0);
+    }
+
     static void p10_allAsItIsAheadOfIt() {
         for (int first = 0; first <= 1; first++) {
             int other = 1 - first;
@@ -542,6 +553,12 @@ final class ActBoundaries extends Boundaries {
         due("hour", x.count(6), 13);
     }
 
+    static void p16_anAnswerOf0IsNotRefused() {
+        BorrowedWeight x = rich();
+        row("the last string is cut", x, text(x, "t12n1").night(), 2, 0, x.count(3));
+        due("no strings", x.count(2), 0);
+    }
+
     static void p16_stockNotSoMany() {
         BorrowedWeight x = with("1;1;1;1", "");
         row("the fourth", x, text(x, "l09l19l29l34l33").night(), 3, 1, 3);
@@ -644,14 +661,22 @@ final class ActBoundaries extends Boundaries {
 
     /** One more can be undone by a call, and undo() brings all back but for the ROW and THE TEXT. */
     private static void undoes(String what, BorrowedWeight x, Runnable call) {
+        // so that what was drawn earlier is not as it is now
+        x.digs(1);
         int kept = x.count(10);
         x.evens();
         String before = view(x);
         call.run();
-        due(what + ": one more", x.count(10), kept + 1);
-        due(what + ": undo", x.undo(), kept);
+        due(what + ": one more", x.count(10), Math.min(15, kept + 1));
+        due(what + ": undo", x.undo(), Math.min(14, kept));
         x.evens();
         unchanged(what + " undone", x, before);
+    }
+
+    static void p17_aStringThatIsCut() {
+        BorrowedWeight x = with("1;1", "01");
+        undoes("the last string is cut", x, () -> due("none is left", x.ties(0, 1), 0));
+        due("it is back", x.count(2), 1);
     }
 
     static void p17_refusedOnesAreNotKept() {

@@ -325,6 +325,16 @@ final class QuestionBoundaries extends Boundaries {
         row("all", x, x.surplus(), 72, 9, 9, 9, 9, 9, 9, 9, 9);
     }
 
+    static void p24_nothingIsLeftOfAnEarlierAnswer() {
+        BorrowedWeight x = full();
+        due("all", x.surplus(), 72);
+        text(x, "9").rule();
+        row("just enough", x, x.surplus(), 0, 0, 0, 0, 0, 0, 0, 0, 0);
+        x.ties(0, 7);
+        x.way(7, 0);
+        row("behind a way", x, x.surplus(), 0, 0, 0, 0, 0, 0, 0, 0, 0);
+    }
+
     static void p24_needAsItIsNow() {
         BorrowedWeight x = ruled("1", "9-g");
         x.lends(0, 6);
@@ -423,6 +433,11 @@ final class QuestionBoundaries extends Boundaries {
     static void p26_itMayBeWorseThanWithout() {
         BorrowedWeight x = ruled("1;1", "k");
         row("both float", x, x.tie(), 2, 0, 1, 0);
+    }
+
+    static void p26_allEightFloat() {
+        BorrowedWeight x = eightOfNine("");
+        row("eight", x, x.tie(), 8, 0, 1, 8);
     }
 
     static void p26_theLastTwoOfEight() {
@@ -541,6 +556,16 @@ final class QuestionBoundaries extends Boundaries {
         row("from the other end", x, x.way(1, 0), 3, 1, 5, 2, 0);
         x.ties(2, 5);
         row("the next", x, x.way(0, 1), 3, 0, 3, 5, 1);
+    }
+
+    static void p28_noWayBehindOneThatWas() {
+        for (int end : new int[] {0, 7}) {
+            BorrowedWeight x = eightOfNine(CHAIN);
+            due("there is one", x.way(end, 7 - end), 7);
+            x.ties(end, end == 0 ? 1 : 6);
+            refused("from " + end, x, -2, () -> x.way(end, 7 - end));
+            refused("to " + end, x, -2, () -> x.way(7 - end, end));
+        }
     }
 
     static void p28_shortAheadOfLeast() {
@@ -686,6 +711,17 @@ final class QuestionBoundaries extends Boundaries {
         row("in 64", x, x.owes(64), 1, 999, 999 + 992);
         row("both have 999", x, x.owes(65), 0, 999, 1998);
         row("in 99", x, x.owes(99), 0, 999, 1998);
+    }
+
+    static void p30_eightThings() {
+        BorrowedWeight x = full();
+        row("all alike", x, x.owes(1), 0, 9, 72);
+        x.hours(1);
+        for (int i = 0; i < 7; i++) {
+            x.pays(i);
+        }
+        row("the last", x, x.owes(0), 7, 9, 9);
+        row("the last, at the end", x, x.owes(99), 7, 900, 900 + 7 * 891);
     }
 
     static void p30_aGoneOneToo() {

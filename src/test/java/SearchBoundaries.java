@@ -147,6 +147,15 @@ final class SearchBoundaries extends Boundaries {
         row("not gone yet", x, x.fits(), 2, 1, 1);
     }
 
+    static void p33_theEighthThing() {
+        BorrowedWeight x = ruled("1;1;1;1;1;1;1;1", "(i=7)");
+        x.seen(7, 0, 0);
+        row("it alone, and not with none", x, x.fits(), 128, 1, 0);
+        x.forget();
+        x.seen(7, 0, 1);
+        row("all others, and with none", x, x.fits(), 127, 7, 1);
+    }
+
     static void p33_itChangesNothing() {
         BorrowedWeight x = rich();
         x.fits();
@@ -309,6 +318,15 @@ final class SearchBoundaries extends Boundaries {
         row("seven", x, x.evens(), 9, 7, 27);
     }
 
+    static void p37_theFirstThingAlone() {
+        BorrowedWeight x = with("1;1;1", "");
+        x.lends(0, 5);
+        x.lends(1, 2);
+        row("the first", x, x.evens(), 3, 1, 5);
+        x.lends(2, 3);
+        row("even", x, x.evens(), 0, 1, 5);
+    }
+
     static void p37_ofAsGoodOnesTheLeast() {
         BorrowedWeight x = with("1;1;1", "");
         x.lends(2, 5);
@@ -431,6 +449,15 @@ final class SearchBoundaries extends Boundaries {
         }
         BigInteger stays = ways(strings, next + 1, whole | 1 << next, p).multiply(BigInteger.valueOf(10 - p));
         return stays.add(ways(strings, next + 1, whole, p).multiply(BigInteger.valueOf(p)));
+    }
+
+    static void p39_byWayOfTheLastThing() {
+        BorrowedWeight x = ruled("1;1;1;1;1;1;1;1", "(i=0)");
+        text(x, "07;71;72").strings();
+        x.lends(1, 1);
+        row("one holder", x, x.storm(0, 5), 0, 1, 4);
+        x.lends(2, 1);
+        row("two holders", x, x.storm(0, 5), 0, 3, 8);
     }
 
     static void p39_moreThanTwelveStrings() {
@@ -637,6 +664,24 @@ final class SearchBoundaries extends Boundaries {
                 int lost = live(y, seed, n);
                 row("seed " + seed + ", n " + n, x, x.years(seed, n), y.count(1), y.count(3), lost);
             }
+        }
+    }
+
+    static void p43_oneThing() {
+        for (int seed = -10; seed < 10; seed++) {
+            BorrowedWeight x = with("9", "");
+            BorrowedWeight y = with("9", "");
+            int lost = live(y, seed, 30);
+            row("seed " + seed, x, x.years(seed, 30), y.count(1), y.count(3), lost);
+        }
+    }
+
+    static void p43_eightThings() {
+        for (int seed = 0; seed < 10; seed++) {
+            BorrowedWeight x = with("9;8;7;6;5;4;3;2", "07;12");
+            BorrowedWeight y = with("9;8;7;6;5;4;3;2", "07;12");
+            int lost = live(y, seed, 60);
+            row("seed " + seed, x, x.years(seed, 60), y.count(1), y.count(3), lost);
         }
     }
 

@@ -84,8 +84,10 @@ final class TextBoundaries extends Boundaries {
     static void p02_moreThanEightyIsRefused() {
         for (int signs = 77; signs <= 80; signs++) {
             BorrowedWeight x = text(rich(), times(signs, "1"));
-            refused("from " + signs, x, BorrowedWeight.NONE, () -> x.sign(0x31313131));
+            String before = view(x);
+            due("from " + signs, x.sign(0x31313131), BorrowedWeight.NONE);
             due("signs", x.count(12), signs);
+            unchanged("from " + signs, x, before);
         }
     }
 
@@ -696,6 +698,47 @@ final class TextBoundaries extends Boundaries {
             due("hour " + hour, x.thing(0, 5), hour % 7);
             x.hours(1);
         }
+    }
+
+    static void p07_whatCouldNotStandLeavesNothingBehind() {
+        String[] faults = {"-", "--", "(", "((((", "1<", "-(", "12+", "3*-", "1234", "z1", "12)", times(41, "-")};
+        for (String fault : faults) {
+            BorrowedWeight x = ruled("1", "5");
+            Check.yes("fault " + fault, text(x, fault).rule() < 0);
+            due("behind " + fault, text(x, "8-1<7").rule(), 0);
+            due("by it", x.thing(0, 5), 0);
+            Check.yes("fault again " + fault, text(x, fault).rule() < 0);
+            due("a number behind " + fault, text(x, "6").rule(), 0);
+            due("by the number", x.thing(0, 5), 6);
+        }
+    }
+
+    static void p07_noNumberGoesOnFromAnEarlierText() {
+        BorrowedWeight x = ruled("1", "5");
+        for (String number : new String[] {"1", "12"}) {
+            due("a number", text(x, number).law(), 0);
+            refusedText(x, "z1", -2, x::rule);
+            due("a number", text(x, number).law(), 0);
+            refusedText(x, "(z1", -3, x::rule);
+        }
+    }
+
+    static void p07_theTextIsEmptiedByEachReader() {
+        BorrowedWeight x = with("9;9", "");
+        due("things", text(x, "9").things(), 1);
+        due("emptied", x.count(12), 0);
+        due("strings", text(x, "01").strings(), 1);
+        due("emptied", x.count(12), 0);
+        due("winds", text(x, "0").winds(), 1);
+        due("emptied", x.count(12), 0);
+        due("rule", text(x, "1").rule(), 0);
+        due("emptied", x.count(12), 0);
+        due("night", text(x, "n1").night(), 1);
+        due("emptied", x.count(12), 0);
+        due("serves", text(x, "0011").serves(), 1);
+        due("emptied", x.count(12), 0);
+        due("law", text(x, "1").law(), 0);
+        due("emptied", x.count(12), 0);
     }
 
     static void p07_namesOfAThing() {
