@@ -1326,8 +1326,10 @@ public final class BorrowedWeight {
     private static final class Rule {
         private static final int MOST_DEPTH = 4;
         private static final int MOST_DIGITS = 3;
+        /** Codes below are numbers, from here on names, then signs: no name's place is beyond the values. */
         private static final int VARIABLE = 1000;
-        private static final int OPERATOR = 2000;
+        static final int VALUES = 8;
+        private static final int OPERATOR = VARIABLE + VALUES;
         private static final int NUMBERLESS = 0;
         private static final char NEGATE = '~';
         private static final char[] NAMES = {'z', 'w', 'k', 'g', 'h', 'd', 'i', 'n'};
@@ -1489,7 +1491,7 @@ public final class BorrowedWeight {
         /** What comes out for a thing of which the values are told in the order of the names. */
         int valueOf(int[] values) {
             int top = 0;
-            for (int at = 0; at < size; at++) {
+            for (int at = 0; at < size && top < RULE_SIGNS; at++) {
                 int code = codes[at];
                 if (code < VARIABLE) {
                     stack[top] = code;
@@ -1543,7 +1545,7 @@ public final class BorrowedWeight {
         int bundleCount;
         private final int[] windDigits = new int[WINDS_SIGNS];
         private int windCount = 1;
-        private final int[] values = new int[Rule.NAMES.length];
+        private final int[] values = new int[Rule.VALUES];
 
         boolean isThing(int thing) {
             return thing >= 0 && thing < thingCount && thing < MOST_THINGS;
@@ -1624,7 +1626,7 @@ public final class BorrowedWeight {
             bundleCount = 0;
             int left = present(state);
             for (int i = 0; i < thingCount; i++) {
-                if ((left >> i & 1) == 1) {
+                if ((left >> i & 1) == 1 && bundleCount < MOST_THINGS) {
                     int bundle = state.bundleOf(i);
                     left &= ~bundle;
                     bundles[bundleCount] = bundle;
